@@ -1542,6 +1542,8 @@ public final class SandGlasses {
         /** By a row and a set that is turned: minutes to the next EVENT above CODE_BITS, its row below; 0: none. */
         final int[] ways;
         int rows;
+        /** All sets that can be turned are below it. */
+        int sets;
         private final Steps steps;
         /** By a code: 1 more than its row, 0 if it is none. */
         private final int[] rowOf = new int[CODES];
@@ -1563,9 +1565,10 @@ public final class SandGlasses {
                 rowOf[codes[row] & (CODES - 1)] = 0;
             }
             rows = 0;
+            sets = Math.min(SETS, glasses + 1);
             add(tops);
             for (int row = 0; row < rows && row < codes.length; row++) {
-                for (int set = 0; set < SETS; set++) {
+                for (int set = 0; set < sets; set++) {
                     int step = (set & ~glasses) == 0 ? steps.from(turned(sizes, codes[row], set)) : 0;
                     int later = step == 0 ? 0 : add(step & (CODES - 1));
                     ways[row * SETS + set] = step >> CODE_BITS << CODE_BITS | later;
@@ -1608,7 +1611,7 @@ public final class SandGlasses {
         }
 
         private void passOn(int row) {
-            for (int set = 0; set < SETS; set++) {
+            for (int set = 0; set < sets; set++) {
                 int way = ways[row * SETS + set];
                 if (way != 0) {
                     nextLayer[way & (CODES - 1)] |= layer[row] << (way >> CODE_BITS) & MINUTES;
@@ -1644,7 +1647,7 @@ public final class SandGlasses {
             for (int minutes = 1; minutes <= last && minutes <= LAST_T; minutes++) {
                 for (int row = 0; row < walk.rows; row++) {
                     int best = FAR;
-                    for (int set = 0; set < SETS; set++) {
+                    for (int set = 0; set < walk.sets; set++) {
                         best = Math.min(best, by(row, set, minutes));
                     }
                     least[minutes * ROWS + row] = best;
@@ -1779,7 +1782,7 @@ public final class SandGlasses {
         int longestStill() {
             int longest = 0;
             for (int row = 0; row < walk.rows; row++) {
-                for (int set = 0; set < SETS && walk.minutes[row] != 0; set++) {
+                for (int set = 0; set < walk.sets && walk.minutes[row] != 0; set++) {
                     longest = Math.max(longest, walk.ways[row * SETS + set] >> CODE_BITS);
                 }
             }
@@ -1791,7 +1794,7 @@ public final class SandGlasses {
             int oneEach = FIELDS[allGlasses() & (SETS - 1)] / 7;
             int bits = 0;
             for (int row = 0; row < walk.rows; row++) {
-                for (int set = 0; set < SETS && walk.minutes[row] != 0; set++) {
+                for (int set = 0; set < walk.sets && walk.minutes[row] != 0; set++) {
                     int minutes = walk.ways[row * SETS + set] >> CODE_BITS;
                     if (minutes > 0 && turned(sizes, walk.codes[row], set) == minutes * oneEach) {
                         bits |= walk.minutes[row] << minutes & MINUTES;
@@ -1899,7 +1902,7 @@ public final class SandGlasses {
             int minute = 0;
             for (int k = 0; k < LAST_T && minute < t; k++) {
                 int set = 0;
-                while (set < SETS - 1 && costs.by(row, set, t - minute) != costs.of(row, t - minute)) {
+                while (set < walk.sets - 1 && costs.by(row, set, t - minute) != costs.of(row, t - minute)) {
                     set++;
                 }
                 rowSets[k] = set;
@@ -1954,7 +1957,7 @@ public final class SandGlasses {
             for (int round = 0; round <= LAST_DONE && changed; round++) {
                 changed = false;
                 for (int row = 0; row < walk.rows; row++) {
-                    for (int set = 0; set < SETS; set++) {
+                    for (int set = 0; set < walk.sets; set++) {
                         int way = walk.ways[row * SETS + set];
                         int minutes = (way >> CODE_BITS) + costs.ends[way & (CODES - 1)];
                         if (way != 0 && minutes < costs.ends[row]) {
@@ -1982,7 +1985,7 @@ public final class SandGlasses {
         /** A step takes a glass's share of parts for each minute, though it draws but once: the rest is made up. */
         private long luckOf(int row, int minutes) {
             long sum = 0;
-            for (int set = 0; set < SETS; set++) {
+            for (int set = 0; set < walk.sets; set++) {
                 int way = walk.ways[row * SETS + set];
                 int taken = way >> CODE_BITS;
                 if (way != 0 && taken <= minutes) {
