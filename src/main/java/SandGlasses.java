@@ -48,10 +48,11 @@ public final class SandGlasses {
 
     private static final int CODES = 4096;
     private static final int CODE_BITS = 12;
-    /** Behind minute 0 a row at an EVENT has a 0 in it: 4096 - 2401 rows, and the one that was told. */
-    private static final int ROWS = 1696;
-    /** The same of three glasses: 512 - 343, and the one that was told. */
-    private static final int PART_ROWS = 170;
+    /**
+     * By glasses: how many rows of TOPS there are at EVENTS at most. Behind minute 0 such a row has a 0 in it: of four
+     * glasses 4096 - 2401 rows, and the one that was told.
+     */
+    private static final int[] ROWS = {1, 2, 16, 170, 1696};
     /** Minutes 0 to 30 as bits. */
     private static final int MINUTES = 0x7fffffff;
     /** Far above every sum that is asked for, and far below where an int ends. */
@@ -459,8 +460,8 @@ public final class SandGlasses {
 
     private Book bookOf(int shelf, Text s) {
         int i = shelf == 0 ? 0 : 1;
-        if (books[i] == null) {
-            books[i] = new Book(steps);
+        if (books[i] == null || !books[i].hasRoomFor(s.lines)) {
+            books[i] = new Book(steps, s.lines);
         }
         books[i].open(s);
         return books[i];
@@ -702,6 +703,7 @@ public final class SandGlasses {
     private static final class Reader {
         private static final int GLASS_WORD = 0;
         private static final int PRICE_WORD = 1;
+        /** Behind it come the words of the other deeds, as their kinds do behind WAIT. */
         private static final int WAIT_WORD = 2;
         private static final int RAN_WORD = 7;
         private static final int QUIET_WORD = 8;
@@ -898,13 +900,13 @@ public final class SandGlasses {
                     return "price";
                 case WAIT_WORD:
                     return "wait";
-                case 3:
+                case WAIT_WORD + TURN:
                     return "turn";
-                case 4:
+                case WAIT_WORD + LAY:
                     return "lay";
-                case 5:
+                case WAIT_WORD + STAND:
                     return "stand";
-                case 6:
+                case WAIT_WORD + LEAK:
                     return "leak";
                 case RAN_WORD:
                     return "ran";
@@ -1377,6 +1379,8 @@ public final class SandGlasses {
 
     /** Which EVENT comes next, nothing being turned: of each code worked out once. */
     private static final class Steps {
+        /** By a code, for one walk at a time: 1 more than its row; all are 0 ahead of the walk and behind it. */
+        final int[] rowOf = new int[CODES];
         private final int[] known = new int[CODES];
 
         /** The minutes up to the next EVENT above CODE_BITS, the tops then below; 0 if nothing runs. */
@@ -1545,14 +1549,12 @@ public final class SandGlasses {
         /** All sets that can be turned are below it. */
         int sets;
         private final Steps steps;
-        /** By a code: 1 more than its row, 0 if it is none. */
-        private final int[] rowOf = new int[CODES];
         private final int[] layer;
         private final int[] nextLayer;
 
-        Walk(Steps steps, int room) {
+        Walk(Steps steps, int glasses) {
             this.steps = steps;
-            codes = new int[Math.max(1, room)];
+            codes = new int[ROWS[Math.max(0, Math.min(GLASSES, glasses))]];
             minutes = new int[codes.length];
             ways = new int[codes.length * SETS];
             layer = new int[codes.length];
@@ -1561,9 +1563,6 @@ public final class SandGlasses {
 
         /** Glasses (bits) are those that may be turned; the codes have nothing of the others. */
         void explore(int sizes, int tops, int glasses) {
-            for (int row = 0; row < rows; row++) {
-                rowOf[codes[row] & (CODES - 1)] = 0;
-            }
             rows = 0;
             sets = Math.min(SETS, glasses + 1);
             add(tops);
@@ -1574,18 +1573,21 @@ public final class SandGlasses {
                     ways[row * SETS + set] = step >> CODE_BITS << CODE_BITS | later;
                 }
             }
+            for (int row = 0; row < rows; row++) {
+                steps.rowOf[codes[row] & (CODES - 1)] = 0;
+            }
             findMinutes();
         }
 
         /** The row of a code, a new one if it has none. */
         private int add(int code) {
             int at = code & (CODES - 1);
-            if (rowOf[at] == 0 && rows < codes.length) {
+            if (steps.rowOf[at] == 0 && rows < codes.length) {
                 codes[rows] = at;
                 rows++;
-                rowOf[at] = rows;
+                steps.rowOf[at] = rows;
             }
-            return Math.max(0, rowOf[at] - 1);
+            return Math.max(0, steps.rowOf[at] - 1);
         }
 
         private void findMinutes() {
@@ -1634,13 +1636,17 @@ public final class SandGlasses {
         /** By a set: what it costs to turn it. */
         final int[] weights = new int[SETS];
         /** By a row: what it costs to have come to its end there. */
-        final int[] ends = new int[ROWS];
+        final int[] ends;
         private final Walk walk;
+        private final int room;
         /** By minutes and a row. */
-        private final int[] least = new int[(LAST_T + 1) * ROWS];
+        private final int[] least;
 
         Costs(Walk walk) {
             this.walk = walk;
+            room = walk.codes.length;
+            ends = new int[room];
+            least = new int[(LAST_T + 1) * room];
         }
 
         void workOut(int last) {
@@ -1650,13 +1656,13 @@ public final class SandGlasses {
                     for (int set = 0; set < walk.sets; set++) {
                         best = Math.min(best, by(row, set, minutes));
                     }
-                    least[minutes * ROWS + row] = best;
+                    least[minutes * room + row] = best;
                 }
             }
         }
 
         int of(int row, int minutes) {
-            return minutes >= 1 && minutes <= LAST_T ? least[minutes * ROWS + row] : FAR;
+            return minutes >= 1 && minutes <= LAST_T ? least[minutes * room + row] : FAR;
         }
 
         /** The same, if a set is turned at once. */
@@ -1667,7 +1673,7 @@ public final class SandGlasses {
                 return FAR;
             }
             int next = way & (CODES - 1);
-            return weights[set] + (left == 0 ? ends[next] : least[left * ROWS + next]);
+            return weights[set] + (left == 0 ? ends[next] : least[left * room + next]);
         }
     }
 
@@ -1682,7 +1688,8 @@ public final class SandGlasses {
         private final int[] spans = new int[LAST_T + 1];
         /** By a set of glasses: what they tell alone (bits), NONE as long as nobody has asked. */
         private final int[] parts = new int[SETS];
-        private final long[] luck = new long[(LAST_LUCK + 1) * ROWS];
+        /** By minutes and a row. */
+        private final long[] luck;
         private final int[] rowSets = new int[LAST_T];
         private final int[] rowMinutes = new int[LAST_T];
         private int rowLength;
@@ -1698,10 +1705,15 @@ public final class SandGlasses {
         /** Whether the costs are still those of turns. */
         private boolean costsAreTurns;
 
-        Book(Steps steps) {
-            walk = new Walk(steps, ROWS);
-            part = new Walk(steps, PART_ROWS);
+        Book(Steps steps, int glasses) {
+            walk = new Walk(steps, glasses);
+            part = new Walk(steps, glasses - 1);
             costs = new Costs(walk);
+            luck = new long[(LAST_LUCK + 1) * walk.codes.length];
+        }
+
+        boolean hasRoomFor(int glasses) {
+            return walk.codes.length >= ROWS[Math.max(0, Math.min(GLASSES, glasses))];
         }
 
         void open(Text shelf) {
@@ -1974,12 +1986,12 @@ public final class SandGlasses {
             if (!luckKnown) {
                 for (int minutes = 1; minutes <= LAST_LUCK; minutes++) {
                     for (int row = 0; row < walk.rows; row++) {
-                        luck[minutes * ROWS + row] = luckOf(row, minutes);
+                        luck[minutes * walk.codes.length + row] = luckOf(row, minutes);
                     }
                 }
                 luckKnown = true;
             }
-            return t >= 1 && t <= LAST_LUCK ? luck[t * ROWS] : 0;
+            return t >= 1 && t <= LAST_LUCK ? luck[t * walk.codes.length] : 0;
         }
 
         /** A step takes a glass's share of parts for each minute, though it draws but once: the rest is made up. */
@@ -1990,7 +2002,7 @@ public final class SandGlasses {
                 int taken = way >> CODE_BITS;
                 if (way != 0 && taken <= minutes) {
                     int left = minutes - taken;
-                    long share = left == 0 ? 1 : luck[left * ROWS + (way & (CODES - 1))];
+                    long share = left == 0 ? 1 : luck[left * walk.codes.length + (way & (CODES - 1))];
                     sum += share << (glasses * (taken - 1));
                 }
             }

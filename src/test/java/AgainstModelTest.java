@@ -17,19 +17,22 @@ public final class AgainstModelTest {
     public static void main(String[] args) {
         AgainstModelTest test = new AgainstModelTest(20261118);
         int rounds = args.length > 0 ? Integer.parseInt(args[0]) : 60;
-        SandGlasses x = new SandGlasses();
-        Check.tell(x, 0, -1, "");
-        Check.tell(x, 0, -1, "");
-        Check.tell(x, 1, -1, "");
-        Check.tell(x, 1, -1, "");
-        Check.tell(x, 2, -1, "");
-        Check.tell(x, 2, -1, "");
-        Check.tell(x, 3, -1, "");
-        Check.tell(x, 3, -1, "");
+        SandGlasses x = withEmptyTexts();
         for (int round = 0; round < rounds; round++) {
+            if (round % 20 < 10) {
+                x = withEmptyTexts();
+            }
             test.round(x, round, round % 4 == 3 ? 7 : 2 + round % 6, round % 5);
         }
         test.check.finish();
+    }
+
+    private static SandGlasses withEmptyTexts() {
+        SandGlasses x = new SandGlasses();
+        for (int i = 0; i < 8; i++) {
+            Check.tell(x, i / 2, -1, "");
+        }
+        return x;
     }
 
     private void round(SandGlasses x, int round, int largest, int most) {
@@ -247,6 +250,9 @@ public final class AgainstModelTest {
         check.due(name + "times 6", x.times(at, 6), dearest);
         check.due(name + "times 7", x.times(at, 7), dearest < 0 ? 0 : rows[dearest].turns());
         check.due(name + "times 8", x.times(at, 8), free);
+        for (int what = 9; what <= 13; what++) {
+            check.due(name + "times " + what, x.times(at, what), Model.ofShelf(shelf, what));
+        }
         check.due(name + "times 14", x.times(at, 14), Model.still(shelf));
         for (int t = 1; t <= 30; t++) {
             int couples = 0;

@@ -427,6 +427,34 @@ final class Model {
         return most;
     }
 
+    /** As times() has it: 9 COMMON, 10 SAND, 11 EVEN, 12 DRY, 13 LIKE. */
+    static int ofShelf(Shelf shelf, int what) {
+        int found = 0;
+        for (int g = 0; g < shelf.n(); g++) {
+            int top = shelf.tops().get(g);
+            switch (what) {
+                case 9:
+                    found = BigInteger.valueOf(found).gcd(BigInteger.valueOf(shelf.size(g))).intValue();
+                    break;
+                case 10:
+                    found += top;
+                    break;
+                case 11:
+                    found |= top == shelf.size(g) - top ? 1 << g : 0;
+                    break;
+                case 12:
+                    found = Math.max(found, top);
+                    break;
+                default:
+                    for (int h = 0; h < g; h++) {
+                        found += shelf.size(h) == shelf.size(g) && shelf.tops().get(h) == top ? 1 : 0;
+                    }
+                    break;
+            }
+        }
+        return found;
+    }
+
     /** A day as it goes: deeds as kind and number. */
     static final class Day {
         final int n;

@@ -139,6 +139,10 @@ public final class PromisesTest {
         CHECK.due("the turns are as many", x.tell(0, 9, 0), 5);
         Check.tell(x, 0, 0, FOUR_SEVEN);
         CHECK.due("and prices again", x.tell(0, 9, 2), 11);
+        Check.tell(x, 0, 0, "glass 4 0;glass 7 0;price 0 2;price 1 3;");
+        CHECK.due("another price of glass 0", x.tell(0, 9, 2), 13);
+        Check.tell(x, 0, 0, "glass 4 0;glass 7 0;price 0 2;price 1 4;");
+        CHECK.due("another price of glass 1", x.tell(0, 9, 2), 16);
     }
 
     private static void rows() {
@@ -222,6 +226,12 @@ public final class PromisesTest {
         CHECK.due("nothing", x.plan(0, 0, 0), 0);
         CHECK.due("3: from 4 to 7", x.plan(0, 0, 1), 7);
         CHECK.due("then 4", x.plan(0, 0, 2), 11);
+        CHECK.due("a row", x.tell(0, 9, 12), 2);
+        CHECK.due("once more", x.plan(0, 0, 2), 11);
+        CHECK.due("another row", x.tell(0, 10, 10), 3);
+        CHECK.due("its turns", x.tell(0, 10, 0), 4);
+        CHECK.due("its price", x.tell(0, 10, 2), 6);
+        CHECK.due("and once more", x.plan(0, 0, 2), 11);
         Check.tell(x, 3, 0, "span 30;span 30;span 30;span 4;");
         CHECK.due("30", x.plan(0, 0, 1), 30);
         CHECK.due("90", x.plan(0, 0, 3), 90);
@@ -321,9 +331,26 @@ public final class PromisesTest {
         Check.tell(x, 1, 0, "wait 9;".repeat(4) + "turn 0;");
         Check.tell(x, 2, 0, "ran 0 39;");
         CHECK.due("minutes alone behind the day", x.fits(0, 0, 0, 0), 4);
+        Check.tell(x, 2, 0, "ran 0 40;");
+        CHECK.due("that is 36 and 4 more than it holds", x.fits(0, 0, 0, 0), 0);
+        Check.tell(x, 1, 0, "wait 9;".repeat(4) + "wait 1;turn 0;");
+        CHECK.due("minute 40", x.fits(0, 0, 0, 0), 4);
+        Check.tell(x, 1, 0, "wait 1;turn 1;wait 1;turn 0;");
+        Check.tell(x, 2, 0, "ran 0 3;");
+        CHECK.due("a glass that is not there ends the day", x.fits(0, 0, 0, 0), 1);
+        CHECK.due("so that nothing is turned", x.fits(0, 0, 0, 10), 13);
+        Check.tell(x, 1, 0, "wait 9;".repeat(11) + "wait 1;turn 0;");
+        CHECK.due("up to minute 99", x.fits(0, 0, 0, 0), 1);
+        Check.tell(x, 1, 0, "turn 0;turn 0;".repeat(20));
+        CHECK.due("forty deeds", x.fits(0, 0, 0, 10), 13);
+        Check.tell(x, 1, 0, "turn 0;turn 0;".repeat(19) + "turn 0;");
+        CHECK.due("thirty-nine", x.fits(0, 0, 0, 10), 10);
         Check.tell(x, 1, 0, "");
         Check.tell(x, 2, 0, "");
         CHECK.due("ask: 1 is as good as 2 and 3", x.fits(0, 0, 0, 1), 1);
+        Check.tell(x, 0, 0, "glass 1 0;");
+        Check.tell(x, 1, 0, "lay 0;" + "wait 9;".repeat(4) + "wait 3;stand 0;");
+        CHECK.due("ask: 40 alone tells", x.fits(0, 0, 0, 1), 40);
     }
 
     private static void drawn() {
