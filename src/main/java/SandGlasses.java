@@ -95,14 +95,15 @@ public final class SandGlasses {
     }
 
     public int text(int sort, int at) {
+        int length = told.length;
+        told.length = 0;
         told.fault = 0;
         told.faultAt = NONE;
         int number = told.numberFor(sort, at);
         if (number == NONE) {
             return REFUSED;
         }
-        reader.read(sort, told.tape, told.length);
-        told.length = 0;
+        reader.read(sort, told.tape, length);
         told.fault = reader.fault;
         told.faultAt = reader.faultAt;
         if (reader.fault != 0) {

@@ -138,19 +138,25 @@ public final class TextsTest {
             SandGlasses x = new SandGlasses();
             CHECK.due("count", x.count(sort), 0);
             CHECK.due("in the place of none", Check.tell(x, sort, 0, good), -2);
-            CHECK.due("the tape stays", x.end(good.length()), good.length());
-            CHECK.due("first", x.text(sort, -1), 0);
+            CHECK.due("the tape is taken", x.feed(0, 0, 0, 0, 0), 20);
+            CHECK.due("in the place of none again", x.text(sort, 0), -2);
+            CHECK.due("the tape is taken again", x.end(1), -1);
+            CHECK.due("first", Check.tell(x, sort, -1, good), 0);
             CHECK.due("second", Check.tell(x, sort, -1, good), 1);
             CHECK.due("count", x.count(sort), 2);
             CHECK.due("with a fault", Check.tell(x, sort, 1, "x"), -1);
             CHECK.due("fault", x.fault(0), 1);
+            CHECK.due("the tape is taken with a fault", x.end(1), -1);
             CHECK.due("third", Check.tell(x, sort, -1, other), -2);
             CHECK.due("no fault then", x.fault(0), 0);
             CHECK.due("no place then", x.fault(1), -1);
-            CHECK.due("in the place of the third", x.text(sort, 2), -2);
-            CHECK.due("at -2", x.text(sort, -2), -2);
-            CHECK.due("in the place of the second", x.text(sort, 1), 1);
-            CHECK.due("empty tape", x.end(0), 0);
+            CHECK.due("the tape is taken by a third", x.end(1), -1);
+            CHECK.due("in the place of the third", Check.tell(x, sort, 2, other), -2);
+            CHECK.due("the tape is taken in no such place", x.end(1), -1);
+            CHECK.due("at -2", Check.tell(x, sort, -2, other), -2);
+            CHECK.due("the tape is taken at -2", x.end(1), -1);
+            CHECK.due("in the place of the second", Check.tell(x, sort, 1, other), 1);
+            CHECK.due("the tape is taken", x.end(1), -1);
             CHECK.due("what stayed", first(x, sort, 0), 3);
             CHECK.due("what is new", first(x, sort, 1), 5);
             CHECK.due("an empty text", x.text(sort, 0), 0);
@@ -158,12 +164,13 @@ public final class TextsTest {
             CHECK.due("nothing in it", lines(x, sort, 0), 0);
         }
         SandGlasses x = new SandGlasses();
-        Check.put(x, "wait 1;");
         for (int sort : new int[] {-1, 4, Integer.MIN_VALUE, Integer.MAX_VALUE}) {
+            Check.put(x, "wait 1;");
             CHECK.due("no such sort", x.text(sort, -1), -2);
+            CHECK.due("the tape is taken by no such sort", x.end(1), -1);
             CHECK.due("count of no such sort", x.count(sort), -2);
         }
-        CHECK.due("the tape stays", x.text(1, -1), 0);
+        CHECK.due("nothing was kept", x.count(1), 0);
         CHECK.due("fault(2)", x.fault(2), -1);
         CHECK.due("fault(-1)", x.fault(-1), -1);
     }
