@@ -1616,8 +1616,9 @@ public final class SandGlasses {
         private void passOn(int row) {
             for (int set = 0; set < sets; set++) {
                 int way = ways[row * SETS + set];
-                if (way != 0) {
-                    nextLayer[way & (CODES - 1)] |= layer[row] << (way >> CODE_BITS) & MINUTES;
+                int next = way & (CODES - 1);
+                if (way != 0 && next < rows) {
+                    nextLayer[next] |= layer[row] << (way >> CODE_BITS) & MINUTES;
                 }
             }
         }
@@ -1670,10 +1671,10 @@ public final class SandGlasses {
         int by(int row, int set, int minutes) {
             int way = walk.ways[row * SETS + set];
             int left = minutes - (way >> CODE_BITS);
-            if (way == 0 || left < 0) {
+            int next = way & (CODES - 1);
+            if (way == 0 || left < 0 || next >= walk.rows) {
                 return FAR;
             }
-            int next = way & (CODES - 1);
             return weights[set] + (left == 0 ? ends[next] : least[left * room + next]);
         }
     }
@@ -1913,7 +1914,7 @@ public final class SandGlasses {
             rowLength = 0;
             int row = 0;
             int minute = 0;
-            for (int k = 0; k < LAST_T && minute < t; k++) {
+            for (int k = 0; k < LAST_T && minute < t && row < walk.rows; k++) {
                 int set = 0;
                 while (set < walk.sets - 1 && costs.by(row, set, t - minute) != costs.of(row, t - minute)) {
                     set++;
@@ -1972,7 +1973,8 @@ public final class SandGlasses {
                 for (int row = 0; row < walk.rows; row++) {
                     for (int set = 0; set < walk.sets; set++) {
                         int way = walk.ways[row * SETS + set];
-                        int minutes = (way >> CODE_BITS) + costs.ends[way & (CODES - 1)];
+                        int next = way & (CODES - 1);
+                        int minutes = (way >> CODE_BITS) + (next < walk.rows ? costs.ends[next] : FAR);
                         if (way != 0 && minutes < costs.ends[row]) {
                             costs.ends[row] = minutes;
                             changed = true;
@@ -2001,9 +2003,10 @@ public final class SandGlasses {
             for (int set = 0; set < walk.sets; set++) {
                 int way = walk.ways[row * SETS + set];
                 int taken = way >> CODE_BITS;
-                if (way != 0 && taken <= minutes) {
+                int next = way & (CODES - 1);
+                if (way != 0 && taken <= minutes && next < walk.rows) {
                     int left = minutes - taken;
-                    long share = left == 0 ? 1 : luck[left * walk.codes.length + (way & (CODES - 1))];
+                    long share = left == 0 ? 1 : luck[left * walk.codes.length + next];
                     sum += share << (glasses * (taken - 1));
                 }
             }

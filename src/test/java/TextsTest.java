@@ -188,7 +188,7 @@ public final class TextsTest {
         }
     }
 
-    private static int lines(SandGlasses x, int sort, int number) {
+    static int lines(SandGlasses x, int sort, int number) {
         switch (sort) {
             case 0:
                 return x.shelf(number, 0);
@@ -275,7 +275,7 @@ public final class TextsTest {
         }
     }
 
-    private static String sample(Random random, int sort) {
+    static String sample(Random random, int sort) {
         StringBuilder text = new StringBuilder();
         int lines = random.nextInt(random.nextInt(8) == 0 ? ROOM[sort] + 3 : 5);
         boolean wild = random.nextInt(3) == 0;
@@ -295,7 +295,7 @@ public final class TextsTest {
         return (random.nextInt(4) == 0 ? "\n" : " ").repeat(random.nextInt(3) == 0 ? least + 1 : least);
     }
 
-    private static String spoil(Random random, String text) {
+    static String spoil(Random random, String text) {
         StringBuilder spoilt = new StringBuilder(text);
         String signs = "0123456789;; \nagplsrq\t\u00ff";
         for (int i = random.nextInt(3); i > 0 && spoilt.length() > 0; i--) {
@@ -324,7 +324,7 @@ public final class TextsTest {
     }
 
     /** The fault, its place, the lines that make glasses, deeds, facts, spans. */
-    private static int[] judge(int sort, String text) {
+    static int[] judge(int sort, String text) {
         List<String> tokens = new ArrayList<>();
         List<Integer> places = new ArrayList<>();
         Matcher matcher = TOKEN.matcher(text);
