@@ -196,21 +196,9 @@ public final class RunsTest {
         CHECK.due("lines of " + sort + " " + number, TextsTest.lines(x, sort, number), lines);
         for (int k = 0; k <= lines; k++) {
             for (int what = 0; what < 3; what++) {
-                CHECK.due("line " + k + " of " + sort + " " + number, line(x, sort, number, k, what), line(fresh, sort, number, k, what));
+                CHECK.due("line " + k + " of " + sort + " " + number, Look.line(x, sort, number, k, what),
+                    Look.line(fresh, sort, number, k, what));
             }
-        }
-    }
-
-    private static int line(SandGlasses x, int sort, int number, int k, int what) {
-        switch (sort) {
-            case 0:
-                return x.shelf(number, 10 + 10 * what + k);
-            case 1:
-                return x.deed(number, k, what);
-            case 2:
-                return x.fact(number, k, what);
-            default:
-                return x.order(number, k);
         }
     }
 
