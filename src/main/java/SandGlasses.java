@@ -295,7 +295,7 @@ public final class SandGlasses {
             return first ? NONE : 0;
         }
         game.begin(s);
-        int best = game.duelFrom(game.tops, n, true);
+        int best = game.bestOfDuel(n);
         return first ? best % SETS : best / SETS;
     }
 
@@ -1414,12 +1414,12 @@ public final class SandGlasses {
 
     /** What is played out of a shelf as told: all turned at each EVENT, two by turns, glasses turned by chance. */
     private static final class Game {
-        int tops;
         /** EVENTS ahead of the round, EVENTS of it, its minutes; NONE if there is no round. */
         int ahead;
         int events;
         int minutes;
         private final Steps steps;
+        private int tops;
         private int sizes;
         private int sets;
         private int glasses;
@@ -1502,8 +1502,13 @@ public final class SandGlasses {
             return minute == t;
         }
 
+        /** The minute at which the duel ends times SETS, and the set that the first one turns first. */
+        int bestOfDuel(int times) {
+            return duelFrom(tops, Math.min(times, LAST_DUEL), true);
+        }
+
         /** The minutes that are still to come times SETS, and the set that is turned now. */
-        int duelFrom(int code, int left, boolean late) {
+        private int duelFrom(int code, int left, boolean late) {
             int best = 0;
             int bestSet = NONE;
             for (int set = 0; set < sets; set++) {

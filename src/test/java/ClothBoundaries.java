@@ -48,6 +48,13 @@ final class ClothBoundaries {
         due.due("no sand on top: turned at 1", fits("glass 3 0;", "leak 0;wait 1;turn 0;", "ran 0 3;", 11), 11);
         due.due("full: as it is, no day", fits("glass 3 0;", "leak 0;wait 1;turn 0;", "ran 0 3;", 12), 13);
         due.due("three in all", fits("glass 3 0;", "leak 0;wait 1;turn 0;", "ran 0 3;", 0), 3);
+        due.due("a leak that a minute ahead lets be", fits("glass 3 0;", "wait 1;leak 0;turn 0;", "ran 0 3;", 0), 2);
+        due.due("a leak of what a turn brought down", fits("glass 3 0;", "wait 1;turn 0;leak 0;turn 0;", "ran 0 3;", 0), 0);
+        due.due("a stop where it brought nothing down", fits("glass 3 0;", "wait 1;turn 0;leak 0;turn 0;", "ran 0 4;", 0), 2);
+        due.due("40 deeds, or none, by the top", fits("glass 2 0;", "leak 0;" + "turn 0;".repeat(39), "ran 0 2;", 10), 12);
+        due.due("39 deeds, or none, by the top", fits("glass 2 0;", "leak 0;" + "turn 0;".repeat(38), "ran 0 2;", 10), 12);
+        due.due("40 deeds of the last glass", fits("glass 7 0;".repeat(4), "turn 3;".repeat(40), "ran 3 7;", 0), 512);
+        due.due("the first deed of one that is not there", fits("glass 3 0;", "turn 1;turn 0;", "ran 0 3;", 10), 13);
         due.due("a glass that is not there stops it", fits("glass 3 0;", "wait 1;turn 1;turn 0;", "ran 0 3;", 10), 13);
         due.due("a day beyond the last minute stops", fits("glass 3 0;", "wait 9;".repeat(12) + "turn 0;", "ran 0 3;", 10), 13);
         due.due("minutes behind the day up to 40", fits("glass 3 0;", "wait 9;".repeat(4) + "wait 1;turn 0;", "ran 0 40;", 0), 4);
@@ -65,6 +72,8 @@ final class ClothBoundaries {
         due.due("quiet: neither", fits("glass 7 0;glass 7 0;", "", "quiet 3;", 0), 49);
         due.due("both facts", fits("glass 7 0;glass 7 0;", "", "quiet 3;ran 0 2;", 0), 7);
         due.due("facts that gainsay each other", fits("glass 7 0;", "", "ran 0 3;quiet 3;", 0), 0);
+        due.due("one glass at two minutes", fits("glass 7 0;", "", "ran 0 3;ran 0 5;", 0), 0);
+        due.due("one glass at two minutes by a turn", fits("glass 7 0;", "wait 3;turn 0;", "ran 0 3;ran 0 10;", 10), 13);
         due.due("one fact twice", fits("glass 7 0;", "", "ran 0 3;ran 0 3;", 0), 1);
         due.due("eight facts", fits("glass 7 0;", "", "quiet 1;quiet 2;quiet 3;quiet 4;quiet 5;quiet 6;quiet 8;ran 0 7;", 10), 17);
         due.due("eight, the last not so", fits("glass 7 0;", "", "quiet 1;".repeat(7) + "ran 0 1;", 0), 0);

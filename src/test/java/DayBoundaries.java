@@ -275,6 +275,7 @@ final class DayBoundaries {
         due.by("Terms 5", "KEEN: the GLASS that RAN OUT most, of several the least (none: none).");
         due.due("none", after("glass 3 3;", "wait 2;")[5], -1);
         due.due("no glasses", after("", "wait 2;")[5], -1);
+        due.due("the first", after("glass 1 1;glass 1 0;", "wait 1;")[5], 0);
         due.due("of two the least", after("glass 3 0;glass 3 3;glass 3 3;", "wait 3;")[5], 1);
         due.due("the one with most", after("glass 1 1;glass 1 1;glass 1 0;glass 1 1;", "wait 1;turn 3;wait 1;")[5], 3);
     }

@@ -49,6 +49,7 @@ final class GameBoundaries {
         wheelIs("glass 7 0;", 0, 1, 7);
         wheelIs("glass 7 6;", 1, 1, 7);
         wheelIs(FOUR_SEVEN, 0, 2, 8);
+        wheelIs("glass 7 0;glass 4 0;", 0, 2, 8);
         wheelIs("glass 3 1;glass 3 3;", 1, 1, 3);
         wheelIs("glass 7 7;", -1, -1, -1);
         wheelIs("glass 7 7;glass 1 1;glass 3 3;glass 2 2;", -1, -1, -1);

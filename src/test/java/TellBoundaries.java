@@ -110,6 +110,10 @@ final class TellBoundaries {
         due.row("five of 1, or one of 9", new int[] {x.tell(0, 5, 0), x.tell(0, 5, 2), x.tell(0, 9, 2), x.tell(0, 10, 2)},
             1, 5, 9, 10);
         due.due("none by no turn", due.with("glass 7 7;price 0 9;").tell(0, 7, 2), 0);
+        x = due.with("glass 2 0;glass 3 0;price 0 0;price 1 9;");
+        due.row("2, 3, 5", new int[] {x.tell(0, 2, 2), x.tell(0, 3, 2), x.tell(0, 5, 2)}, 0, 9, 9);
+        due.due("other prices in its place", Check.tell(x, 0, 0, "glass 2 0;glass 3 0;price 0 1;price 1 0;"), 0);
+        due.row("2, 3, 5", new int[] {x.tell(0, 2, 2), x.tell(0, 3, 2), x.tell(0, 5, 2)}, 1, 0, 1);
         due.by("Terms 3", "PURSE of m, 0 .. 99: of which T there is TELL by TURNS of PRICE m or less together (bits).");
         x = due.with(ONE + "price 0 9;");
         due.row("none by 0 or 8, one by 9 and 17, two by 18", new int[] {x.purse(0, 0), x.purse(0, 8), x.purse(0, 9),
@@ -228,6 +232,8 @@ final class TellBoundaries {
         SandGlasses x = due.with("glass 4 0;glass 2 0;glass 2 0;");
         due.row("2: one, glass 1", new int[] {x.need(0, 2, false), x.need(0, 2, true)}, 1, 2);
         due.row("4: one, glass 0", new int[] {x.need(0, 4, false), x.need(0, 4, true)}, 1, 1);
+        x = due.with("glass 2 0;glass 3 0;glass 5 0;");
+        due.row("5: one, not two of lesser bits", new int[] {x.need(0, 5, false), x.need(0, 5, true)}, 1, 4);
         x = due.with("glass 7 0;glass 7 0;glass 4 0;glass 4 0;");
         due.row("11: two, the least", new int[] {x.need(0, 11, false), x.need(0, 11, true)}, 2, 5);
         x = due.with("glass 7 2;glass 7 2;glass 7 2;");

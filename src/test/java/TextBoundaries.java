@@ -153,6 +153,14 @@ final class TextBoundaries {
         fault(0, "GLASS 3 1;", 1, 0);
         fault(0, "glass Z3 1;", 1, 6);
         fault(0, "gla ss 3 1;", 1, 0);
+        String[] lines = {"glass 1 0;", "price 0 1;", "wait 1;", "turn 0;", "lay 0;", "stand 0;", "leak 0;", "ran 0 1;",
+            "quiet 1;", "span 1;"};
+        int[] sorts = {0, 0, 1, 1, 1, 1, 1, 2, 2, 3};
+        for (int i = 0; i < lines.length; i++) {
+            for (int at = 0; at < lines[i].indexOf(' '); at++) {
+                fault(sorts[i], lines[i].substring(0, at) + "x" + lines[i].substring(at + 1), 1, 0);
+            }
+        }
     }
 
     private void numbers() {

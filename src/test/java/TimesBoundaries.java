@@ -174,6 +174,10 @@ final class TimesBoundaries {
         for (int t = 1; t <= 30; t++) {
             due.due("T " + t, x.same(0, t), t % 4 == 0 ? 1 : 0);
         }
+        x = due.with("glass 5 3;glass 6 0;");
+        for (int t = 1; t <= 30; t++) {
+            due.due("T " + t, x.same(0, t), t % 2 == 0 ? 1 : 0);
+        }
         due.row("7 with 2: 5, 12, 19, 26", new int[] {due.with("glass 7 2;").same(0, 2), due.with("glass 7 2;").same(0, 5),
             due.with("glass 7 2;").same(0, 26)}, 0, 1, 1);
         due.row("nothing runs", new int[] {due.with("glass 3 3;").same(0, 3), due.with("").same(0, 1)}, 0, 0);
