@@ -58,7 +58,7 @@ final class ClothBoundaries {
         due.due("a glass that is not there stops it", fits("glass 3 0;", "wait 1;turn 1;turn 0;", "ran 0 3;", 10), 13);
         due.due("a day beyond the last minute stops", fits("glass 3 0;", "wait 9;".repeat(12) + "turn 0;", "ran 0 3;", 10), 13);
         due.due("minutes behind the day up to 40", fits("glass 3 0;", "wait 9;".repeat(4) + "wait 1;turn 0;", "ran 0 40;", 0), 4);
-        due.due("behind 41 deeds' worth of waiting", fits("glass 3 0;", "lay 0;" + "wait 9;".repeat(11), "ran 0 3;", 0), 0);
+        due.due("laid all day", fits("glass 3 0;", "lay 0;" + "wait 9;".repeat(11), "ran 0 3;", 0), 0);
         due.due("minutes alone, no deeds", fits("glass 3 0;", "", "ran 0 3;", 10), 13);
         due.due("the last deed counts", fits("glass 3 0;", "turn 0;".repeat(39) + "turn 0;", "ran 0 3;", 10), 13);
         due.due("all but it", fits("glass 3 0;", "turn 0;".repeat(39), "ran 0 3;", 10), 10);

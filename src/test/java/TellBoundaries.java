@@ -48,7 +48,7 @@ final class TellBoundaries {
         due.due("with nothing on top nothing runs out", due.with("glass 7 0;").times(0, 8), 0);
         due.by("Terms 3", "At each EVENT one TURNS whichever GLASSES one likes, or none, all at once, before the next minute goes by.");
         x = due.with("glass 2 0;glass 3 0;");
-        due.row("4: both at 0, both at 2", new int[] {x.tell(0, 4, 0), x.tell(0, 4, 10), x.tell(0, 4, 11), x.tell(0, 4, 51)},
+        due.row("4: glass 0 at 0 and at 2", new int[] {x.tell(0, 4, 0), x.tell(0, 4, 10), x.tell(0, 4, 11), x.tell(0, 4, 51)},
             2, 1, 1, 2);
         due.due("1 is between no events from 0 on", x.tell(0, 1, 0), -1);
         due.row("5: glass 0, then 1", new int[] {x.tell(0, 5, 0), x.tell(0, 5, 10), x.tell(0, 5, 11)}, 2, 1, 2);
@@ -68,7 +68,7 @@ final class TellBoundaries {
         due.row("7, 14, 21, 28", new int[] {x.tell(0, 7, 0), x.tell(0, 14, 0), x.tell(0, 21, 0), x.tell(0, 28, 0)}, 0, 1, 2, 3);
         x = due.with(FOUR_SEVEN);
         due.row("4, 7, 9, 11", new int[] {x.tell(0, 4, 0), x.tell(0, 7, 0), x.tell(0, 9, 0), x.tell(0, 11, 0)}, 1, 1, 5, 2);
-        due.due("both at 0, at 4, at 7, 0 at 8", x.tell(0, 1, 0), -1);
+        due.due("1: none", x.tell(0, 1, 0), -1);
     }
 
     private void rows() {
@@ -265,7 +265,7 @@ final class TellBoundaries {
         due.due("minute 0 unlike the later ones", due.with("glass 7 7;").times(0, 1), 2);
         due.due("no glasses: one row, without tops", due.with("").times(0, 1), 1);
         due.due("4 and 7", due.with(FOUR_SEVEN).times(0, 1), 10);
-        // No shelf comes to a new row behind minute 17; these are the ones that come to one so late.
+        // Counted by Model and by a search of its own, not on paper. No shelf comes to a new row behind minute 17; these are the ones that come to one so late.
         due.due("rows that come at 15", due.with("glass 6 6;glass 7 7;glass 7 7;glass 7 7;").times(0, 1), 979);
         due.due("rows that come at 17", due.with("glass 6 6;glass 6 6;glass 6 6;glass 7 4;").times(0, 1), 763);
     }
@@ -292,7 +292,7 @@ final class TellBoundaries {
         due.due("five", plan(ONE, "span 15;".repeat(6), 5), 75);
         due.due("90 is in", plan(ONE, "span 30;span 30;span 29;span 1;", 4), 90);
         due.due("91 is out", plan(ONE, "span 30;span 30;span 29;span 2;", 4), -1);
-        due.due("three sevens more than 84 are out", plan("glass 7 0;", "span 28;span 28;span 28;span 7;", 4), -1);
+        due.due("91 by sevens is out", plan("glass 7 0;", "span 28;span 28;span 28;span 7;", 4), -1);
         due.due("84", plan("glass 7 0;", "span 28;span 28;span 28;span 7;", 3), 84);
     }
 
