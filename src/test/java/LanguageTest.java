@@ -1,11 +1,13 @@
 import java.io.IOException;
+import java.lang.reflect.Field;
+import java.lang.reflect.Modifier;
 import java.nio.file.Files;
 import java.nio.file.Path;
 import java.util.List;
 import java.util.regex.Matcher;
 import java.util.regex.Pattern;
 
-/** What of ../shared/LANGUAGE.md can be seen in the source's text: words, imports, lengths of methods, parameters. */
+/** What of ../shared/LANGUAGE.md can be seen in the source: words, imports, lengths of methods, parameters, fields. */
 public final class LanguageTest {
     private static final Check CHECK = new Check();
 
@@ -13,7 +15,7 @@ public final class LanguageTest {
         String source = Files.readString(Path.of("src/main/java/SandGlasses.java"));
         String code = withoutTexts(source);
         none(code, "\\b(try|catch|throw|throws|synchronized|assert|package|volatile|native|transient)\\b");
-        none(code, "->|::|@|\\bExact\\b|\\bNaN\\b");
+        none(code, "->|::|@|Exact\\b|\\bNaN\\b");
         none(code, "\\b(Object|Map|Set|HashMap|Random|Thread|Scanner|Exception|Error|Class)\\b");
         none(code, "\\bSystem\\.(?!arraycopy\\b)");
         none(code, "\\bArrays\\.(?!fill\\b|copyOf\\b|copyOfRange\\b)");
@@ -24,8 +26,10 @@ public final class LanguageTest {
         none(code, "\\bstatic\\s*\\{");
         none(code, "import (?!java\\.util\\.(Arrays|ArrayList|List|Iterator);)");
         none(code, "\\b(protected|public) (?!final class SandGlasses|static final int NONE|int|long|boolean|SandGlasses)");
+        none(source, "\"\\s*\\+[^+]|[^+]\\+\\s*\"");
         classesInside(code);
         methods(code.split("\n"));
+        fields();
         CHECK.finish();
     }
 
@@ -55,6 +59,27 @@ public final class LanguageTest {
             CHECK.due(matcher.group(3) + " is static", outer || matcher.group(1).contains("private static"), true);
         }
         CHECK.due("at most some twelve classes: " + classes, classes <= 13, true);
+    }
+
+    /** Some twenty a class beside its constants; static ones are constants alone. */
+    private static void fields() {
+        for (Class<?> inside : SandGlasses.class.getDeclaredClasses()) {
+            fieldsOf(inside);
+        }
+        fieldsOf(SandGlasses.class);
+    }
+
+    private static void fieldsOf(Class<?> type) {
+        int own = 0;
+        for (Field field : type.getDeclaredFields()) {
+            int modifiers = field.getModifiers();
+            if (Modifier.isStatic(modifiers)) {
+                CHECK.due(type.getName() + "." + field.getName() + " is final", Modifier.isFinal(modifiers), true);
+            } else {
+                own++;
+            }
+        }
+        CHECK.due(type.getName() + " has at most some twenty fields: " + own, own <= 20, true);
     }
 
     private static void methods(String[] lines) {
